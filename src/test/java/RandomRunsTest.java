@@ -48,6 +48,14 @@ final class RandomRunsTest {
         }
         if (lot.nextInt(20) != 0) {
             tellBook(lawfulBook());
+            for (int i = 0; i < 20 && owners == 0; i++) {
+                tellBook(lawfulBook());
+            }
+        }
+        if (lot.nextInt(3) == 0 && owners > 0) {
+            playBorders();
+            playBetterings();
+            return;
         }
         tellGround();
         int most = wide * high <= 12 ? 150 : 60;
@@ -56,6 +64,67 @@ final class RandomRunsTest {
             due("trouble()", x.trouble(), y.trouble());
         }
         dueState();
+    }
+
+    /** Cells drawn thickly by lot: fields with holes and touching corners, and many borders to dig along. */
+    private void playBorders() {
+        wide = 2 + lot.nextInt(7);
+        high = 2 + lot.nextInt(7);
+        due("ground(" + wide + ", " + high + ")", x.ground(wide, high), y.ground(wide, high));
+        int thick = 3 + lot.nextInt(6);
+        for (int c = 0; c < wide * high; c++) {
+            int o = lot.nextInt(10) < thick ? 0 : lot.nextInt(owners + 1) - 1;
+            due("draw(" + c + ", " + o + ")", x.draw(c, o), y.draw(c, o));
+        }
+        for (int i = 0; i < 60; i++) {
+            for (int o = 0; o < owners; o++) {
+                due("stakes(" + o + ")", x.stakes(o), y.stakes(o));
+                due("within(" + o + ")", x.within(o), y.within(o));
+                if (x.trouble() == 0) {
+                    dueStakes(o);
+                }
+            }
+            int corner = lot.nextInt((wide + 1) * (high + 1));
+            due("corner(" + corner + ")", x.corner(corner), y.corner(corner));
+            due("ditches()", x.ditches(), y.ditches());
+            due("total(6)", x.total(6), y.total(6));
+            if (lot.nextInt(4) == 0) {
+                due("clear()", x.clear(), y.clear());
+            }
+            int c = someCell();
+            int o = lot.nextInt(3) < 2 ? 0 : someOwner();
+            due("draw(" + c + ", " + o + ")", x.draw(c, o), y.draw(c, o));
+        }
+    }
+
+    /** Grounds that grow and are bettered to the end. */
+    private void playBetterings() {
+        for (int round = 0; round < 3; round++) {
+            wide = 1 + lot.nextInt(6);
+            high = 1 + lot.nextInt(6);
+            due("ground(" + wide + ", " + high + ")", x.ground(wide, high), y.ground(wide, high));
+            boolean dry = lot.nextBoolean();
+            for (int c = 0; c < wide * high; c++) {
+                tellCell(c, !dry && lot.nextInt(12) == 0);
+            }
+            for (int o = 0; o < owners; o++) {
+                tellDoor(o);
+                int had = lot.nextInt(200);
+                due("had(" + o + ", " + had + ")", x.had(o, had), y.had(o, had));
+            }
+            due("grow()", x.grow(), y.grow());
+            dueDrawing();
+            if (lot.nextInt(3) == 0) {
+                due("set(0, 2)", x.set(0, 2), y.set(0, 2));
+            }
+            due("can()", x.can(), y.can());
+            due("better(100)", x.better(100), y.better(100));
+            dueDrawing();
+            due("can()", x.can(), y.can());
+            for (int what = 0; what <= 6; what++) {
+                due("total(" + what + ")", x.total(what), y.total(what));
+            }
+        }
     }
 
     private void tellBook(String text) {
