@@ -239,6 +239,7 @@ final class PromisesTest {
 
     private static void faults() {
         promise = "3 to 5 faults";
+        dueFault("", 1, 0);
         dueFault("   ", 1, 3);
         dueFault("owner", 1, 5);
         dueFault("owner a", 1, 7);
@@ -260,6 +261,8 @@ final class PromisesTest {
         dueFault("owner a worth ()", 1, 15);
         dueFault("owner a worth (1,2)", 1, 16);
         dueFault("owner a worth 1,2", 1, 15);
+        dueFault("owner a worth 1)", 1, 15);
+        dueFault("owner a worth (1))+1", 1, 17);
         dueFault("owner a worth least(1,2,3)", 1, 23);
         dueFault("owner a worth most(1)", 1, 20);
         dueFault("owner a worth least((1,2),3)", 1, 22);
@@ -302,6 +305,7 @@ final class PromisesTest {
         dueValue("(((((7)))))", 7);
         dueValue("((((least(1,2)))))", 1);
         dueValue("(1)+(2)+(3)+(4)+(5)+(6)", 21);
+        due("the outer letters", Texts.book(new WholeFields(), "owner azaz worth wet + 09"), 1);
         due("a name of eight letters, and no blanks", Texts.book(new WholeFields(), "owner abcdefgh worth5"), 1);
         due("blanks all about", Texts.book(new WholeFields(), "  owner  b  worth  least ( 1 , 2 )  ;owner c worth(1)  "), 2);
         String full = "1+".repeat(19) + "1";
@@ -397,6 +401,8 @@ final class PromisesTest {
         due("value(0, 3) stays", x.value(0, 3), 97);
         due("count(2) stays", x.count(2), 1);
         taken(x, "cell(3, 0, 0, false)", x.cell(3, 0, 0, false));
+        taken(x, "cell(2, 9, 9, false)", x.cell(2, 9, 9, false));
+        due("value(0, 2)", x.value(0, 2), 99);
         due("count(2)", x.count(2), 0);
         x.draw(0, 0);
         x.cell(0, 1, 1, true);

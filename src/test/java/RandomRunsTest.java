@@ -18,7 +18,8 @@ final class RandomRunsTest {
     private int calls;
 
     private RandomRunsTest(long seed) {
-        lot = new Random(seed);
+        // Seeds that are neighbours begin alike, so they are spread.
+        lot = new Random(seed * 0x9E3779B97F4A7C15L);
         run = "run " + seed + ", ";
     }
 
@@ -189,7 +190,7 @@ final class RandomRunsTest {
         int at = lot.nextInt(s.length());
         switch (lot.nextInt(6)) {
             case 0: s.deleteCharAt(at); break;
-            case 1: s.insert(at, SIGNS[lot.nextInt(SIGNS.length)]); break;
+            case 1: s.insert(lot.nextBoolean() ? at : s.length(), SIGNS[lot.nextInt(SIGNS.length)]); break;
             case 2: s.insert(at, " " + WORDS[lot.nextInt(WORDS.length)] + " "); break;
             case 3: s.setLength(at); break;
             case 4: s.setCharAt(at, (char) lot.nextInt(256)); break;
