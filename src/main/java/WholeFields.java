@@ -895,8 +895,9 @@ public final class WholeFields {
             return c >= 0 && c < cells;
         }
 
+        /** All that is asked of an owner (a field, a sum, a HAD) is of a ground: without one there is none such. */
         boolean isOwner(int owner) {
-            return owner >= 0 && owner < book.owners;
+            return stands() && owner >= 0 && owner < book.owners;
         }
 
         int corners() {

@@ -236,7 +236,7 @@ final class PlainFields {
     }
 
     private boolean isOwner(int o) {
-        return o >= 0 && o < book.size();
+        return hasGround() && o >= 0 && o < book.size();
     }
 
     int feed(int a, int b, int c, int d, int e) {
@@ -611,7 +611,7 @@ final class PlainFields {
         if (!isOwner(owner) || !isOwner(other) || owner == other) {
             return refuse(1);
         }
-        return pass(hasGround() && envy(table(), drawn, owner, other) ? 1 : 0);
+        return pass(envy(table(), drawn, owner, other) ? 1 : 0);
     }
 
     int votes(int owner) {
@@ -801,12 +801,12 @@ final class PlainFields {
         if (!isOwner(owner)) {
             return refuse(1);
         }
-        List<Integer> turns = hasGround() ? walk(owner) : List.of();
+        List<Integer> turns = walk(owner);
         return turns.isEmpty() ? refuse(5) : pass(turns.size());
     }
 
     int stake(int owner, int i) {
-        List<Integer> turns = hasGround() && isOwner(owner) ? walk(owner) : List.of();
+        List<Integer> turns = isOwner(owner) ? walk(owner) : List.of();
         if (i < 0 || i >= turns.size()) {
             throw new NoSuchElementException();
         }
@@ -817,7 +817,7 @@ final class PlainFields {
         if (!isOwner(owner)) {
             return refuse(1);
         }
-        if (!hasGround() || walk(owner).isEmpty()) {
+        if (walk(owner).isEmpty()) {
             return refuse(5);
         }
         // The outside comes in from a rim round the ground, over corners too: the border leaves them open.
@@ -852,7 +852,7 @@ final class PlainFields {
         if (low > high) {
             return refuse(2);
         }
-        List<Integer> set = hasGround() ? field(drawn, owner) : List.of();
+        List<Integer> set = field(drawn, owner);
         if (set.size() > 12 || set.size() < 2 || !hangs(set)) {
             return refuse(5);
         }

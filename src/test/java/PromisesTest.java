@@ -30,6 +30,7 @@ final class PromisesTest {
     }
 
     private static void groundPromises() {
+        withoutGround();
         ground();
         cell();
         door();
@@ -224,9 +225,60 @@ final class PromisesTest {
         due("book of two", Texts.book(x, TWO), 2);
         due("count(1): no ground", x.count(1), 0);
         due("whose(0): no ground", x.whose(0), -1);
-        due("votes(0): nothing is told of owners", x.votes(0), 1);
         due("clear(): no corners without a ground", x.clear(), 0);
         refused(x, "bars()", x.bars(), 1);
+    }
+
+    private static void withoutGround() {
+        promise = "7 to 32 without a ground";
+        dueNoneSuch(new WholeFields());
+        dueNoneSuch(with(TWO));
+        // The owners of an earlier ground had fields there, with sums and stakes: a new book ends them.
+        WholeFields x = drawn(TWO, "aab aab");
+        x.had(0, 1);
+        x.corner(2);
+        due("book of two behind a ground", Texts.book(x, TWO), 2);
+        dueNoneSuch(x);
+        // A book that is refused leaves the ground, and with it all that is asked of owners.
+        x = drawn(TWO, "aab aab");
+        refused(x, "book of a fault", Texts.book(x, "owner a worth 100"), 4);
+        taken(x, "had(0, 20)", x.had(0, 20));
+        due("sum(0)", x.sum(0), 20);
+        due("envies(1, 0)", x.envies(1, 0), 1);
+        due("votes(0)", x.votes(0), 1);
+        due("stakes(0)", x.stakes(0), 4);
+        due("within(1)", x.within(1), 2);
+        due("split(0, 10, 10)", x.split(0, 10, 10), 2);
+    }
+
+    /** Every call that asks for a cell, an owner or a corner: 1 stands ahead of all other numbers. */
+    private static void dueNoneSuch(WholeFields x) {
+        refused(x, "cell(0, 5, 0, false)", x.cell(0, 5, 0, false), 1);
+        refused(x, "cell(0, 10, 0, false)", x.cell(0, 10, 0, false), 1);
+        refused(x, "door(0, 0)", x.door(0, 0), 1);
+        refused(x, "keep(0, 0)", x.keep(0, 0), 1);
+        refused(x, "keep(0, NONE)", x.keep(0, -1), 1);
+        refused(x, "had(0, 0)", x.had(0, 0), 1);
+        refused(x, "had(1, -1)", x.had(1, -1), 1);
+        refused(x, "set(1, 5)", x.set(1, 5), 1);
+        refused(x, "set(1, 21)", x.set(1, 21), 1);
+        due("value(0, 0)", x.value(0, 0), NO_NUMBER);
+        refused(x, "draw(0, 0)", x.draw(0, 0), 1);
+        refused(x, "draw(0, NONE)", x.draw(0, -1), 1);
+        due("whose(0)", x.whose(0), -1);
+        due("sum(0)", x.sum(0), NO_NUMBER);
+        due("sum(1)", x.sum(1), NO_NUMBER);
+        refused(x, "envies(0, 1)", x.envies(0, 1), 1);
+        refused(x, "envies(1, 0)", x.envies(1, 0), 1);
+        refused(x, "votes(0)", x.votes(0), 1);
+        refused(x, "votes(1)", x.votes(1), 1);
+        refused(x, "better(101)", x.better(101), 1);
+        refused(x, "stakes(0)", x.stakes(0), 1);
+        due("stake(0, 0) throws", hasNoStake(x, 0, 0), true);
+        refused(x, "within(0)", x.within(0), 1);
+        refused(x, "split(0, 0, 5)", x.split(0, 0, 5), 1);
+        refused(x, "split(0, 5, 0)", x.split(0, 5, 0), 1);
+        refused(x, "corner(0)", x.corner(0), 1);
     }
 
     private static void dueFault(String text, int fault, int place) {
