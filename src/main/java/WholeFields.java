@@ -53,8 +53,7 @@ public final class WholeFields {
         walker = new Walker(ground);
         splitter = new Splitter(ground);
         ditcher = new Ditcher(ground, drawing);
-        barredAt = NONE;
-        partBits = NONE;
+        forgetGround();
     }
 
     // ---- the book
@@ -87,8 +86,7 @@ public final class WholeFields {
         ground.book = reader.draft;
         reader.draft = old;
         ground.leave();
-        drawing.wipe();
-        ditcher.told = 0;
+        forgetGround();
         return pass(ground.book.owners);
     }
 
@@ -110,10 +108,7 @@ public final class WholeFields {
             return refuse(BAD_NUMBER);
         }
         ground.lay(wide, high);
-        drawing.wipe();
-        ditcher.told = 0;
-        barredAt = NONE;
-        partBits = NONE;
+        forgetGround();
         return pass(ground.cells);
     }
 
@@ -392,6 +387,14 @@ public final class WholeFields {
                 held++;
             }
         }
+    }
+
+    /** What was drawn, told and answered on a ground goes with it, whether a new one or none comes in its place. */
+    private void forgetGround() {
+        drawing.wipe();
+        ditcher.told = 0;
+        barredAt = NONE;
+        partBits = NONE;
     }
 
     private int pass(int answer) {
@@ -1021,7 +1024,6 @@ public final class WholeFields {
 
         Drawing(Ground ground) {
             this.ground = ground;
-            Arrays.fill(holder, NONE);
         }
 
         void wipe() {

@@ -272,6 +272,8 @@ final class PlainFields {
         doors = new int[6];
         had = new int[6];
         told.clear();
+        barredAt = NONE;
+        partBits = NONE;
         return pass(book.size());
     }
 

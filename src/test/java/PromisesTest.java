@@ -23,6 +23,7 @@ final class PromisesTest {
         aNewObject();
         feed();
         book();
+        foundBehindBook();
         faults();
         soundBooks();
         fault();
@@ -227,6 +228,38 @@ final class PromisesTest {
         due("whose(0): no ground", x.whose(0), -1);
         due("clear(): no corners without a ground", x.clear(), 0);
         refused(x, "bars()", x.bars(), 1);
+        due("barred() behind a bars() that is refused", x.barred(), -1);
+    }
+
+    /** What bars() and split() found on a ground goes with it, but not with a book that is refused. */
+    private static void foundBehindBook() {
+        promise = "18 and 29 behind book";
+        for (String rows : new String[] {"aab", "aa.", "a.a"}) {
+            WholeFields x = drawn(TWO, rows.equals("a.a") ? "aab" : rows);
+            x.split(0, 5, 5);
+            redraw(x, rows);
+            x.bars();
+            int barred = rows.equals("aab") ? -2 : rows.indexOf('.');
+            due("barred() of " + rows, x.barred(), barred);
+            due("part() of " + rows, x.part(), 1);
+            refused(x, "book of a fault", Texts.book(x, "owner a worth 100"), 4);
+            due("barred() behind a faulty book", x.barred(), barred);
+            due("part() behind a faulty book", x.part(), 1);
+            refused(x, "book(1) of an empty tape", x.book(1), 2);
+            due("barred() behind a book refused by 2", x.barred(), barred);
+            due("part() behind a book refused by 2", x.part(), 1);
+            due("book of two", Texts.book(x, TWO), 2);
+            due("barred() behind a book", x.barred(), -1);
+            due("part() behind a book", x.part(), -1);
+            refused(x, "ground(0, 1)", x.ground(0, 1), 2);
+            refused(x, "bars()", x.bars(), 1);
+            refused(x, "split(0, 5, 5)", x.split(0, 5, 5), 1);
+            due("barred() behind refused calls", x.barred(), -1);
+            due("part() behind refused calls", x.part(), -1);
+            due("ground(2, 1)", x.ground(2, 1), 2);
+            due("barred() of a new ground", x.barred(), -1);
+            due("part() of a new ground", x.part(), -1);
+        }
     }
 
     private static void withoutGround() {

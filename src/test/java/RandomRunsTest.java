@@ -137,6 +137,8 @@ final class RandomRunsTest {
         due("trouble()", x.trouble(), y.trouble());
         due("fault()", x.fault(), y.fault());
         due("where()", x.where(), y.where());
+        due("barred()", x.barred(), y.barred());
+        due("part()", x.part(), y.part());
         owners = x.count(0);
     }
 
