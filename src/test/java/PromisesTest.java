@@ -1,22 +1,13 @@
-import java.util.NoSuchElementException;
-
-/** Each promise of the document by itself: ordinary inputs, the edges that it names, and wrong inputs. */
-final class PromisesTest {
-    private static final Tally TALLY = new Tally("PromisesTest");
-    private static final int NO_NUMBER = -2147483648;
-    private static final String ONE = "owner a worth soil";
-    private static final String TWO = "owner a worth soil; owner b worth soil";
-    private static final String THREE = "owner a worth 1; owner b worth 1; owner c worth 1";
-
-    private static String promise = "";
-
+/** Each promise of the document by itself: ordinary inputs, and wrong inputs in one state after another. */
+final class PromisesTest extends Checks {
     public static void main(String[] args) {
+        begin("PromisesTest");
         bookPromises();
         groundPromises();
         drawingPromises();
         foundPromises();
         borderPromises();
-        TALLY.end();
+        end();
     }
 
     private static void bookPromises() {
@@ -74,90 +65,8 @@ final class PromisesTest {
         trouble();
     }
 
-    private static void due(String call, long got, long want) {
-        TALLY.due(promise + ": " + call, got, want);
-    }
-
-    private static void due(String call, boolean got, boolean want) {
-        TALLY.due(promise + ": " + call, got, want);
-    }
-
-    /** A refused call, and what trouble() answers behind it. */
-    private static void refused(WholeFields x, String call, long got, int trouble) {
-        due(call, got, -1);
-        due("trouble() behind " + call, x.trouble(), trouble);
-    }
-
-    private static void refusedNumber(WholeFields x, String call, long got, int trouble) {
-        due(call, got, NO_NUMBER);
-        due("trouble() behind " + call, x.trouble(), trouble);
-    }
-
-    private static void refused(WholeFields x, String call, boolean got, int trouble) {
-        due(call, got, false);
-        due("trouble() behind " + call, x.trouble(), trouble);
-    }
-
-    private static void taken(WholeFields x, String call, boolean got) {
-        due(call, got, true);
-        due("trouble() behind " + call, x.trouble(), 0);
-    }
-
-    private static WholeFields with(String text) {
-        WholeFields x = new WholeFields();
-        due("book of '" + text + "'", Texts.book(x, text) > 0, true);
-        return x;
-    }
-
-    private static WholeFields with(String text, int wide, int high) {
-        WholeFields x = with(text);
-        due("ground(" + wide + ", " + high + ")", x.ground(wide, high), wide * high);
-        return x;
-    }
-
-    /** Rows parted by blanks; a to f are owners, a dot is no one. */
-    private static WholeFields drawn(String text, String rows) {
-        String[] parts = rows.split(" ");
-        WholeFields x = with(text, parts[0].length(), parts.length);
-        redraw(x, rows);
-        return x;
-    }
-
-    private static void redraw(WholeFields x, String rows) {
-        String cells = rows.replace(" ", "");
-        for (int c = 0; c < cells.length(); c++) {
-            x.draw(c, cells.charAt(c) == '.' ? -1 : cells.charAt(c) - 'a');
-        }
-    }
-
-    private static void dueDrawing(WholeFields x, String call, String rows) {
-        String cells = rows.replace(" ", "");
-        for (int c = 0; c < cells.length(); c++) {
-            due(call + ", then whose(" + c + ")", x.whose(c), cells.charAt(c) == '.' ? -2 : cells.charAt(c) - 'a');
-        }
-    }
-
-    private static boolean hasNoStake(WholeFields x, int owner, int i) {
-        try {
-            x.stake(owner, i);
-            return false;
-        } catch (NoSuchElementException e) {
-            return true;
-        }
-    }
-
-    private static void dueStakes(WholeFields x, int owner, int... corners) {
-        due("stakes(" + owner + ")", x.stakes(owner), corners.length);
-        for (int i = 0; i < corners.length; i++) {
-            int got = hasNoStake(x, owner, i) ? -99 : x.stake(owner, i);
-            due("stake(" + owner + ", " + i + ")", got, corners[i]);
-        }
-        due("stake(" + owner + ", " + corners.length + ") throws", hasNoStake(x, owner, corners.length), true);
-        due("stake(" + owner + ", -1) throws", hasNoStake(x, owner, -1), true);
-    }
-
     private static void aNewObject() {
-        promise = "1 a new object";
+        about("1 a new object");
         WholeFields x = new WholeFields();
         for (int what = 0; what <= 8; what++) {
             due("count(" + what + ")", x.count(what), 0);
@@ -183,7 +92,7 @@ final class PromisesTest {
     }
 
     private static void feed() {
-        promise = "2 feed";
+        about("2 feed");
         WholeFields x = new WholeFields();
         due("feed", x.feed(0x6F776E65, 0x72206120, 0x776F7274, 0x68203720, 0x20202020), 20);
         due("book(15)", x.book(15), 1);
@@ -202,7 +111,7 @@ final class PromisesTest {
     }
 
     private static void book() {
-        promise = "3 book";
+        about("3 book");
         WholeFields x = new WholeFields();
         Texts.feed(x, "owner a worth 12; owner b worth 3");
         refused(x, "book(-1)", x.book(-1), 2);
@@ -233,7 +142,7 @@ final class PromisesTest {
 
     /** What bars() and split() found on a ground goes with it, but not with a book that is refused. */
     private static void foundBehindBook() {
-        promise = "18 and 29 behind book";
+        about("18 and 29 behind book");
         for (String rows : new String[] {"aab", "aa.", "a.a"}) {
             WholeFields x = drawn(TWO, rows.equals("a.a") ? "aab" : rows);
             x.split(0, 5, 5);
@@ -263,7 +172,7 @@ final class PromisesTest {
     }
 
     private static void withoutGround() {
-        promise = "7 to 32 without a ground";
+        about("7 to 32 without a ground");
         dueNoneSuch(new WholeFields());
         dueNoneSuch(with(TWO));
         // The owners of an earlier ground had fields there, with sums and stakes: a new book ends them.
@@ -323,7 +232,7 @@ final class PromisesTest {
     }
 
     private static void faults() {
-        promise = "3 to 5 faults";
+        about("3 to 5 faults");
         dueFault("", 1, 0);
         dueFault("   ", 1, 3);
         dueFault("owner", 1, 5);
@@ -384,7 +293,7 @@ final class PromisesTest {
     }
 
     private static void soundBooks() {
-        promise = "3 sound books";
+        about("3 sound books");
         dueValue("099", 99);
         dueValue("1+" + "1+".repeat(18) + "1", 20);
         dueValue("(((((7)))))", 7);
@@ -399,7 +308,7 @@ final class PromisesTest {
     }
 
     private static void fault() {
-        promise = "4 fault";
+        about("4 fault");
         WholeFields x = with(ONE);
         due("fault()", x.fault(), 0);
         Texts.book(x, "owner a worth 100");
@@ -413,7 +322,7 @@ final class PromisesTest {
     }
 
     private static void where() {
-        promise = "5 where";
+        about("5 where");
         WholeFields x = with(ONE);
         due("where()", x.where(), -1);
         Texts.book(x, "owner a worth 100");
@@ -431,7 +340,7 @@ final class PromisesTest {
     }
 
     private static void ground() {
-        promise = "6 ground";
+        about("6 ground");
         WholeFields x = new WholeFields();
         refused(x, "ground(9, 9) without a book", x.ground(9, 9), 1);
         x = with(TWO);
@@ -472,7 +381,7 @@ final class PromisesTest {
     }
 
     private static void cell() {
-        promise = "7 cell";
+        about("7 cell");
         WholeFields x = with("owner a worth soil * 10 + wet", 2, 2);
         taken(x, "cell(3, 9, 7, true)", x.cell(3, 9, 7, true));
         due("value(0, 3)", x.value(0, 3), 97);
@@ -496,7 +405,7 @@ final class PromisesTest {
     }
 
     private static void door() {
-        promise = "8 door";
+        about("8 door");
         WholeFields x = with("owner a worth far; owner b worth far", 3, 3);
         taken(x, "door(1, 5)", x.door(1, 5));
         due("value(1, 0)", x.value(1, 0), 3);
@@ -515,7 +424,7 @@ final class PromisesTest {
     }
 
     private static void keep() {
-        promise = "9 keep";
+        about("9 keep");
         WholeFields x = with(TWO, 2, 2);
         taken(x, "keep(1, 1)", x.keep(1, 1));
         taken(x, "keep(1, 0)", x.keep(1, 0));
@@ -533,7 +442,7 @@ final class PromisesTest {
     }
 
     private static void had() {
-        promise = "10 had";
+        about("10 had");
         WholeFields x = with(TWO, 1, 1);
         taken(x, "had(1, 1000000)", x.had(1, 1000000));
         due("total(1)", x.total(1), 1000000);
@@ -549,7 +458,7 @@ final class PromisesTest {
     }
 
     private static void set() {
-        promise = "11 set";
+        about("11 set");
         WholeFields x = with(ONE);
         refused(x, "set(0, 1) without a ground", x.set(0, 1), 1);
         x.ground(2, 2);
@@ -572,7 +481,7 @@ final class PromisesTest {
     }
 
     private static void value() {
-        promise = "12 value";
+        about("12 value");
         dueValue("2 + 3 * 4 - 1", 13);
         dueValue("9 - 3 - 2", 4);
         dueValue("9 - (3 - 2)", 8);
@@ -606,7 +515,7 @@ final class PromisesTest {
     }
 
     private static void draw() {
-        promise = "13 draw";
+        about("13 draw");
         WholeFields x = with(TWO, 2, 1);
         taken(x, "draw(0, 1)", x.draw(0, 1));
         due("whose(0)", x.whose(0), 1);
@@ -627,7 +536,7 @@ final class PromisesTest {
     }
 
     private static void whose() {
-        promise = "14 whose";
+        about("14 whose");
         WholeFields x = drawn(TWO, "ab .b");
         dueDrawing(x, "draw", "ab .b");
         due("whose(4)", x.whose(4), -1);
@@ -636,7 +545,7 @@ final class PromisesTest {
     }
 
     private static void sum() {
-        promise = "15 sum";
+        about("15 sum");
         WholeFields x = drawn("owner a worth soil; owner b worth 0 - soil", "aab");
         x.cell(1, 9, 0, false);
         due("sum(0)", x.sum(0), 14);
@@ -649,7 +558,7 @@ final class PromisesTest {
     }
 
     private static void total() {
-        promise = "16 total";
+        about("16 total");
         WholeFields x = with(ONE);
         refusedNumber(x, "total(0) without a ground", x.total(0), 1);
         x = drawn("owner a worth soil; owner b worth 7; owner c worth far", "aab a.b");
@@ -683,7 +592,7 @@ final class PromisesTest {
     }
 
     private static void bars() {
-        promise = "17 bars";
+        about("17 bars");
         WholeFields x = with(TWO);
         refused(x, "bars() without a ground", x.bars(), 1);
         x = drawn(TWO, "aa. b.b");
@@ -731,7 +640,7 @@ final class PromisesTest {
     }
 
     private static void barred() {
-        promise = "18 barred";
+        about("18 barred");
         WholeFields x = with(TWO, 1, 2);
         due("barred() ahead of any", x.barred(), -1);
         x.bars();
@@ -750,7 +659,7 @@ final class PromisesTest {
     }
 
     private static void envies() {
-        promise = "19 envies";
+        about("19 envies");
         WholeFields x = drawn("owner a worth soil; owner b worth 1; owner c worth 0 - 1", "abb");
         due("envies(0, 1)", x.envies(0, 1), 1);
         due("trouble()", x.trouble(), 0);
@@ -771,7 +680,7 @@ final class PromisesTest {
     }
 
     private static void votes() {
-        promise = "20 votes";
+        about("20 votes");
         WholeFields x = drawn(TWO, "aaa");
         due("votes(0)", x.votes(0), 1);
         due("trouble()", x.trouble(), 0);
@@ -794,7 +703,7 @@ final class PromisesTest {
     }
 
     private static void grow() {
-        promise = "21 grow";
+        about("21 grow");
         WholeFields x = with(TWO);
         refused(x, "grow() without a ground", x.grow(), 1);
         x.ground(5, 1);
@@ -832,7 +741,7 @@ final class PromisesTest {
     }
 
     private static void better() {
-        promise = "22 better";
+        about("22 better");
         WholeFields x = with(TWO);
         refused(x, "better(0) without a ground", x.better(0), 1);
         x = drawn("owner a worth 1; owner b worth 3", "aabb");
@@ -877,7 +786,7 @@ final class PromisesTest {
     }
 
     private static void betterTies() {
-        promise = "22 better, of like moves";
+        about("22 better, of like moves");
         WholeFields x = drawn("owner a worth 1; owner b worth 2", "aba aaa");
         x.better(1);
         dueDrawing(x, "better(1): the least cell", "bba aaa");
@@ -900,7 +809,7 @@ final class PromisesTest {
     }
 
     private static void can() {
-        promise = "23 can";
+        about("23 can");
         WholeFields x = with(TWO);
         refused(x, "can() without a ground", x.can(), 1);
         x = drawn("owner a worth 1; owner b worth 3", "aabb");
@@ -916,7 +825,7 @@ final class PromisesTest {
     }
 
     private static void best() {
-        promise = "24 best";
+        about("24 best");
         WholeFields x = with(TWO);
         refusedNumber(x, "best() without a ground", x.best(false), 1);
         x.ground(5, 2);
@@ -954,7 +863,7 @@ final class PromisesTest {
     }
 
     private static void calm() {
-        promise = "24 best, calm";
+        about("24 best, calm");
         WholeFields x = with(TWO, 2, 2);
         due("best(false)", x.best(false), 20);
         dueDrawing(x, "best(false)", "aa aa");
@@ -973,7 +882,7 @@ final class PromisesTest {
     }
 
     private static void stakes() {
-        promise = "25 stakes";
+        about("25 stakes");
         WholeFields x = drawn(TWO, "ab ba");
         refused(x, "stakes(0) of a torn field", x.stakes(0), 5);
         refused(x, "stakes(2)", x.stakes(2), 1);
@@ -985,7 +894,7 @@ final class PromisesTest {
     }
 
     private static void stake() {
-        promise = "26 stake";
+        about("26 stake");
         WholeFields x = drawn(TWO, "ba aa");
         dueStakes(x, 0, 1, 2, 8, 6, 3, 4);
         dueStakes(x, 1, 0, 1, 4, 3);
@@ -1009,7 +918,7 @@ final class PromisesTest {
     }
 
     private static void within() {
-        promise = "27 within";
+        about("27 within");
         WholeFields x = drawn(TWO, "aaa aba aaa");
         due("within(0) with a hole", x.within(0), 9);
         due("within(1)", x.within(1), 1);
@@ -1028,7 +937,7 @@ final class PromisesTest {
     }
 
     private static void split() {
-        promise = "28 split";
+        about("28 split");
         WholeFields x = drawn(TWO, "aaaa aaaa aaaa");
         refused(x, "split(2, 5, 4)", x.split(2, 5, 4), 1);
         refused(x, "split(-1, 0, 9)", x.split(-1, 0, 9), 1);
@@ -1062,7 +971,7 @@ final class PromisesTest {
     }
 
     private static void part() {
-        promise = "29 part";
+        about("29 part");
         WholeFields x = drawn(TWO, "b.aa bba.");
         due("part() without one", x.part(), -1);
         due("split(0, 10, 10)", x.split(0, 10, 10), 1);
@@ -1078,7 +987,7 @@ final class PromisesTest {
     }
 
     private static void corner() {
-        promise = "30 corner";
+        about("30 corner");
         WholeFields x = with(ONE);
         refused(x, "corner(0) without a ground", x.corner(0), 1);
         x.ground(3, 2);
@@ -1097,7 +1006,7 @@ final class PromisesTest {
     }
 
     private static void clear() {
-        promise = "31 clear";
+        about("31 clear");
         WholeFields x = with(ONE, 1, 1);
         x.corner(0);
         x.corner(3);
@@ -1112,7 +1021,7 @@ final class PromisesTest {
     }
 
     private static void ditches() {
-        promise = "32 ditches";
+        about("32 ditches");
         WholeFields x = with(TWO);
         refused(x, "ditches() without a ground", x.ditches(), 1);
         x = drawn(TWO, "aaa aba aaa");
@@ -1155,7 +1064,7 @@ final class PromisesTest {
     }
 
     private static void count() {
-        promise = "33 count";
+        about("33 count");
         WholeFields x = with(THREE);
         due("count(0)", x.count(0), 3);
         for (int what = 1; what <= 8; what++) {
@@ -1184,7 +1093,7 @@ final class PromisesTest {
     }
 
     private static void trouble() {
-        promise = "34 trouble";
+        about("34 trouble");
         WholeFields x = new WholeFields();
         due("trouble()", x.trouble(), 0);
         x.bars();
