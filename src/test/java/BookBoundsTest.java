@@ -559,6 +559,26 @@ final class BookBoundsTest extends Checks {
         }
     }
 
+    @Sentence(of = "3", says = "are the BOOK from now on")
+    private static void p03EachBookIsReadAnew() {
+        // What a book that broke off had open, or an earlier one told, is not in the next one.
+        String[] broken = {"1+(2*", "1-", "1-(1-", "3*(2*", "(((((1", "least(1", "most(1,", FULL, FULL + "-", "1"};
+        WholeFields x = new WholeFields();
+        for (String ahead : broken) {
+            for (int i = 1; i <= 3; i++) {
+                Texts.book(x, AHEAD + ahead);
+                due("book behind '" + ahead + "'", Texts.book(x, AHEAD + i + "+(9-" + i + ");owner b worth " + i), 2);
+                x.ground(1, 1);
+                due("value(0, 0) behind '" + ahead + "'", x.value(0, 0), 9);
+                due("value(1, 0) behind '" + ahead + "'", x.value(1, 0), i);
+                Texts.book(x, "owner a worth 7;owner b worth 8;owner c worth " + ahead);
+            }
+        }
+        due("a comma behind least that broke off", Texts.book(x, AHEAD + "least("), -1);
+        due("a comma behind least that broke off", Texts.book(x, AHEAD + "(1,2)"), -1);
+        due("where()", x.where(), 16);
+    }
+
     @Sentence(of = "3", says = "how many OWNERS.")
     private static void p03HowManyOwners() {
         StringBuilder text = new StringBuilder();

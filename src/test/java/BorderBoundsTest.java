@@ -130,6 +130,30 @@ final class BorderBoundsTest extends Checks {
         x = drawn(ONE, "a.a.a.a. a.a.a.a. a.a.a.a. aaaaaaaa .a.a.a.a .a.a.a.a .a.a.a.a .a.a.a.a");
         due("stakes(0) of two combs", x.stakes(0), 32);
         due("within(0) of two combs", x.within(0), 36);
+        // Nearly as many as there can be; all that is not the field's lies open, over corners at least.
+        String rows = ".a.aa.aa aaa.aa.a .a.a.aaa aaaaaa.a .a.a.aa. a.a.a.aa aaaaaaa. a.a.a.aa";
+        x = drawn(ONE, rows);
+        due("stakes(0) of a jagged field", x.stakes(0), 82);
+        due("its turns", turns(rows.replace(" ", "")), 82);
+        due("within(0) of a jagged field", x.within(0), rows.replaceAll("[^a]", "").length());
+        due("stake(0, 81)", hasNoStake(x, 0, 81), false);
+        due("stake(0, 82)", hasNoStake(x, 0, 82), true);
+    }
+
+    /** Where one or three of four cells about a corner are a's the border turns, and twice where two touch. */
+    private static int turns(String cells) {
+        int found = 0;
+        for (int corner = 0; corner < 81; corner++) {
+            int four = 0;
+            for (int k = 0; k < 4; k++) {
+                int x = corner % 9 - k % 2;
+                int y = corner / 9 - k / 2;
+                boolean isField = x >= 0 && y >= 0 && x < 8 && y < 8 && cells.charAt(y * 8 + x) == 'a';
+                four |= isField ? 1 << k : 0;
+            }
+            found += Integer.bitCount(four) % 2 == 1 ? 1 : four == 0b1001 || four == 0b0110 ? 2 : 0;
+        }
+        return found;
     }
 
     @Sentence(of = "25", says = "NONE: 1;")
@@ -529,6 +553,26 @@ final class BorderBoundsTest extends Checks {
         dueDitches(x, -1, 6, 7);
     }
 
+    @Sentence(of = "V", says = "DITCHES: along borders:")
+    private static void vNotAlongTheBordersOfAFormerGround() {
+        WholeFields x = chequered(8, 8);
+        dueDitches(x, 1, 40, 41);
+        x.ground(3, 3);
+        for (int c = 0; c < 9; c++) {
+            x.draw(c, c % 2);
+        }
+        // Corners of the rim, whose numbers stood amid the former ground; then those of the inner sides.
+        for (int[] pair : new int[][] {{12, 13}, {14, 15}, {3, 7}, {11, 15}, {0, 1}, {0, 4}, {8, 12}}) {
+            dueDitches(x, -1, pair[0], pair[1]);
+        }
+        for (int[] pair : new int[][] {{1, 2}, {4, 8}, {13, 14}, {7, 11}}) {
+            dueDitches(x, 3, pair[0], pair[1]);
+        }
+        for (int[] pair : new int[][] {{5, 6}, {9, 10}, {1, 5}, {10, 14}, {4, 5}, {10, 11}}) {
+            dueDitches(x, 1, pair[0], pair[1]);
+        }
+    }
+
     @Sentence(of = "V", says = "of up to 4 corners told: the least length of sides that join them all.")
     private static void vLeastLengthThatJoins() {
         WholeFields x = chequered(8, 8);
@@ -542,6 +586,14 @@ final class BorderBoundsTest extends Checks {
         dueDitches(x, 10, 34, 10, 28, 16);
         // Two upright ways of 2 and 3, and one of 4 across between them.
         dueDitches(x, 9, 11, 29, 15, 42);
+        // The longest way: it winds in between two fields, and out again.
+        WholeFields winding = drawn(TWO,
+                "aaaaaaaa bbbbbbba aaaaaaba abbbbaba ababbaba abaaaaba abbbbbba aaaaaaaa");
+        due("total(6)", winding.total(6), 49);
+        dueDitches(winding, 49, 9, 18);
+        dueDitches(winding, 49, 18, 9);
+        dueDitches(winding, 49, 18, 39, 38, 9);
+        dueDitches(winding, -1, 18, 9, 17);
         dueDitches(x, -1, 0, 40);
         dueDitches(x, -1, 40, 41, 80);
     }

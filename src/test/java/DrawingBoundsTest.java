@@ -628,6 +628,13 @@ final class DrawingBoundsTest extends Checks {
         x.draw(62, 0);
         x.cell(62, 5, 0, true);
         due("votes(0): a water cell of the field counts", x.votes(0), 0);
+        x = with(TWO, 8, 8);
+        x.door(0, 63);
+        x.draw(0, 0);
+        x.set(1, 14);
+        due("votes(0) of the first cell, from the last", x.votes(0), 1);
+        x.set(1, 13);
+        due("votes(0) of the first cell, from the last", x.votes(0), 0);
     }
 
     @Sentence(of = "20", says = "Whether an OWNER says yes: 1, 0.")

@@ -252,6 +252,14 @@ final class FoundBoundsTest extends Checks {
         due("can(): c would be torn by b's kept cell", x.can(), 0);
         x.keep(1, -1);
         due("can(): b's cell becomes c's", x.can(), 1);
+        // To exchange 1 and 2 would be best, but tears both.
+        x = drawn("owner a worth soil;owner b worth 6-soil", "aabb");
+        x.cell(0, 3, 0, false);
+        x.cell(1, 1, 0, false);
+        x.cell(3, 3, 0, false);
+        x.had(0, 8);
+        x.had(1, 8);
+        dueBettered(x, "an exchange that tears", 1, 1, "abbb");
         x = drawn("owner a worth 1;owner b worth 3", "aabb aabb");
         due("can() of width 1", x.can(), 1);
         x.set(0, 2);
@@ -497,6 +505,12 @@ final class FoundBoundsTest extends Checks {
         dueBest(x, "one for a and one for c", false, 3, "aac");
         x.keep(2, 0);
         dueBest(x, "the last is kept: one for b ahead of two for a", false, 3, "bca");
+        x = with(THREE, 3, 3);
+        x.had(1, 9);
+        dueBest(x, "the last of all that is not c's", false, 9, "bbb bbb bbb");
+        x.had(1, 0);
+        x.had(2, 9);
+        dueBest(x, "the last of all", false, 9, "ccc ccc ccc");
     }
 
     @Sentence(of = "IV", says = "CALM: of all LAWFUL ones the one of fewest such pairs, of such BEST as above.")
@@ -512,6 +526,14 @@ final class FoundBoundsTest extends Checks {
         dueBest(x, "one pair at least: the greatest total", true, 9, "a");
         x.had(1, 1);
         dueBest(x, "one pair at least: the least short", true, 1, "b");
+        x.had(0, 9);
+        dueBest(x, "one pair at least: as short, by one and by eight", true, 9, "a");
+        x = with("owner a worth 1;owner b worth 9", 2, 1);
+        dueBest(x, "no pair, though more pairs had a greater total", true, 10, "ab");
+        dueBest(x, "the greatest total", false, 18, "bb");
+        x = with("owner a worth 5;owner b worth 1", 1, 1);
+        x.had(0, 9);
+        dueBest(x, "one pair at least, the first less short", true, 5, "a");
         x = with(THREE, 3, 1);
         dueBest(x, "no pair of three", true, 3, "abc");
         x = with(THREE, 2, 1);
@@ -537,6 +559,16 @@ final class FoundBoundsTest extends Checks {
         x.draw(0, 0);
         dueBest(x, "of no cell", true, 0, "..");
         dueBest(with(ONE, 1, 1), "of one cell", true, 5, "a");
+        // A best of nine cells ahead leaves nothing in a best of fewer.
+        x = with("owner a worth soil-5;owner b worth soil-4", 3, 3);
+        for (int c = 0; c < 9; c++) {
+            x.cell(c, 0, 0, false);
+        }
+        dueBest(x, "of nine", false, -36, "bbb bbb bbb");
+        for (int cells = 1; cells <= 8; cells++) {
+            x.ground(cells, 1);
+            dueBest(x, "of fewer", false, cells, "b".repeat(cells));
+        }
     }
 
     @Sentence(of = "24", says = "-2^31: 1 (no GROUND);")

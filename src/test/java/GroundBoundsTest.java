@@ -267,6 +267,21 @@ final class GroundBoundsTest extends Checks {
         }
     }
 
+    @Sentence(of = "6", says = "A GROUND (CELLS as at first, no one's,")
+    private static void p06SidesOfTheNewGroundAlone() {
+        // Every cell unlike those beside it: each side but the rim's is a border, however wide the ground ahead was.
+        for (int former = 1; former <= 8; former++) {
+            for (int wide = 1; wide <= 8; wide++) {
+                WholeFields x = with(TWO, former, 8);
+                x.ground(wide, 3);
+                for (int c = 0; c < 3 * wide; c++) {
+                    x.draw(c, (c % wide + c / wide) % 2);
+                }
+                due("total(6) of wide " + wide + " behind " + former, x.total(6), 2 * wide + 3 * (wide - 1));
+            }
+        }
+    }
+
     @Sentence(of = "6", says = "barred(), part() as ahead of any):")
     private static void p06BarredAndPartAsAheadOfAny() {
         WholeFields x = State.LAWFUL.make();
