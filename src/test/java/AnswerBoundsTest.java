@@ -37,7 +37,8 @@ final class AnswerBoundsTest extends Checks {
 
     // ---- Terms VI
 
-    @Sentence(of = "VI", says = "TROUBLE of the latest call that may be refused (those of which a number is told here):")
+    @Sentence(of = "VI",
+            says = "TROUBLE of the latest call that may be refused (those of which a number is told here):")
     private static void viCallsThatMayBeRefused() {
         // Each call that is not refused ends the trouble of the one ahead.
         for (int i = 0; i < 19; i++) {
@@ -80,7 +81,8 @@ final class AnswerBoundsTest extends Checks {
         }
     }
 
-    @Sentence(of = "VI", says = "TROUBLE of the latest call that may be refused (those of which a number is told here):")
+    @Sentence(of = "VI",
+            says = "TROUBLE of the latest call that may be refused (those of which a number is told here):")
     private static void viCallsForDitchesToo() {
         WholeFields x = State.LAWFUL.make();
         x.ground(0, 0);
@@ -94,7 +96,8 @@ final class AnswerBoundsTest extends Checks {
         dueTrouble(x, "ditches()", 0);
     }
 
-    @Sentence(of = "VI", says = "TROUBLE of the latest call that may be refused (those of which a number is told here):")
+    @Sentence(of = "VI",
+            says = "TROUBLE of the latest call that may be refused (those of which a number is told here):")
     private static void viOtherCallsLeaveIt() {
         WholeFields[] all = {State.NEW.make(), State.UNLAWFUL.make(), State.FAULTED.make(), State.LAWFUL.make()};
         int[] troubles = {0, 0, 4, 2};
@@ -125,7 +128,8 @@ final class AnswerBoundsTest extends Checks {
         }
     }
 
-    @Sentence(of = "VI", says = "0 it wasn't; 1 there is none such; 2 a number; 3 no room; 4 a FAULT; 5 not so; 6 there is no way.")
+    @Sentence(of = "VI",
+            says = "0 it wasn't; 1 there is none such; 2 a number; 3 no room; 4 a FAULT; 5 not so; 6 there is no way.")
     private static void viEachNumber() {
         WholeFields x = new WholeFields();
         dueTrouble(x, "no call", 0);

@@ -349,10 +349,12 @@ final class BookBoundsTest extends Checks {
         dueWorthFault("1*".repeat(15) + "(((((((", 5, 35);
     }
 
-    @Sentence(of = "I", says = "1 FORM: the first byte that begins no TOKEN, or TOKEN with which no BOOK goes on (the end: its place).")
+    @Sentence(of = "I",
+            says = "1 FORM: the first byte that begins no TOKEN, or TOKEN with which no BOOK goes on (the end: its "
+                    + "place).")
     private static void iFormAtTheEnd() {
         for (int n = 0; n < 15; n++) {
-            // Up to 14 no owner is whole; up to 13 the last token may stand cut, and is met before the end.
+            // A word that is cut is another word, met ahead of the end.
             int[] places = {0, 0, 0, 0, 0, 5, 6, 7, 8, 8, 8, 8, 8, 13, 14};
             dueFault("owner a worth 1", n, 1, places[n]);
         }
@@ -609,7 +611,8 @@ final class BookBoundsTest extends Checks {
 
     @Sentence(of = "3", says = "4 (the BOOK stays).")
     private static void p03RefusedByFour() {
-        String[] faulty = {"", "owner b worth 1;owner a worth 100", "owner a worth 1;owner a worth 1", SIX + ";owner g"};
+        String[] faulty = {"", "owner b worth 1;owner a worth 100", "owner a worth 1;owner a worth 1",
+            SIX + ";owner g"};
         for (State state : State.ALL) {
             for (String text : faulty) {
                 WholeFields x = state.make();
@@ -632,7 +635,7 @@ final class BookBoundsTest extends Checks {
 
     @Sentence(of = "4", says = "The FAULT of the latest book() not refused by 2;")
     private static void p04FaultStaysBehindTwo() {
-        String[] texts = {"owner a worth !", "owner a worth 1;owner a worth 1", "owner a worth 100", "owner a worth ((((((1"};
+        String[] texts = {AHEAD + "!", AHEAD + "1;owner a worth 1", AHEAD + "100", AHEAD + "((((((1"};
         int[] faults = {1, 3, 4, 5};
         WholeFields x = with(ONE, 1, 1);
         for (int i = 0; i < texts.length; i++) {

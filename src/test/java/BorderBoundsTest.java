@@ -43,7 +43,9 @@ final class BorderBoundsTest extends Checks {
 
     // ---- Terms V: stakes
 
-    @Sentence(of = "V", says = "STAKES of a FIELD that hangs together: corners (x from 0 to wide, y from 0 to high; numbers (wide and 1) times y and x) in order,")
+    @Sentence(of = "V",
+            says = "STAKES of a FIELD that hangs together: corners (x from 0 to wide, y from 0 to high; numbers (wide "
+                    + "and 1) times y and x) in order,")
     private static void vCornersAreNumberedByRows() {
         dueStakes(drawn(ONE, "a"), 0, 0, 1, 3, 2);
         dueStakes(drawn(ONE, "aaaaaaaa"), 0, 0, 8, 17, 9);
@@ -98,7 +100,9 @@ final class BorderBoundsTest extends Checks {
         due("within(1)", x.within(1), 8);
     }
 
-    @Sentence(of = "V", says = "where two CELLS touch at a corner alone, the border turns so that it stays with the CELL it went along.")
+    @Sentence(of = "V",
+            says = "where two CELLS touch at a corner alone, the border turns so that it stays with the CELL it went "
+                    + "along.")
     private static void vStaysWithTheCellAtATouchingCorner() {
         // An open ring whose ends touch at the corner 10, from both sides.
         dueStakes(drawn(TWO, "aaa aba aab"), 0, 0, 3, 11, 10, 6, 5, 9, 10, 14, 12);
@@ -243,7 +247,8 @@ final class BorderBoundsTest extends Checks {
 
     // ---- Terms V: splits, and promises 28 and 29
 
-    @Sentence(of = "V", says = "SPLIT of a FIELD of at most 12 CELLS that hangs together in two parts that do, none empty:")
+    @Sentence(of = "V",
+            says = "SPLIT of a FIELD of at most 12 CELLS that hangs together in two parts that do, none empty:")
     private static void vSplitOfAtMost12() {
         WholeFields x = drawn(ONE, "aaaaaa aaaaaa");
         dueSplit(x, 30, 30, 2, 0b000111000111);
@@ -413,7 +418,8 @@ final class BorderBoundsTest extends Checks {
         refusesNone(new Maker[] {State.LAWFUL, State.FAULTED}, "split(0, 5, 8)", x -> x.split(0, 5, 8), 6);
     }
 
-    @Sentence(of = "29", says = "The CELLS of the one part of the latest split() that told a border, as bits by the FIELD's CELLS;")
+    @Sentence(of = "29",
+            says = "The CELLS of the one part of the latest split() that told a border, as bits by the FIELD's CELLS;")
     private static void p29OfTheLatestThatToldABorder() {
         WholeFields x = drawn(ONE, "aaaaaa aaaaaa");
         x.cell(11, 9, 0, false);
@@ -469,7 +475,8 @@ final class BorderBoundsTest extends Checks {
         }
     }
 
-    private static final Maker[] FULL = {() -> told(chequered(3, 2), 0, 1, 5, 11), () -> told(drawn(TWO, "aab aab"), 3, 2, 1, 0)};
+    private static final Maker[] FULL = {() -> told(chequered(3, 2), 0, 1, 5, 11),
+        () -> told(drawn(TWO, "aab aab"), 3, 2, 1, 0)};
 
     private static WholeFields told(WholeFields x, int... corners) {
         for (int c : corners) {

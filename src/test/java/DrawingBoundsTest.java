@@ -123,7 +123,9 @@ final class DrawingBoundsTest extends Checks {
         dueBars(x, "all that there is", 0, -2);
     }
 
-    @Sentence(of = "II", says = "4 (if WIDTH is 2; 1 at first) a CELL of a FIELD that is in no four of that FIELD that make a square.")
+    @Sentence(of = "II",
+            says = "4 (if WIDTH is 2; 1 at first) a CELL of a FIELD that is in no four of that FIELD that make a "
+                    + "square.")
     private static void iiCellInNoSquare() {
         WholeFields x = drawn(TWO, "a");
         dueBars(x, "width 1 at first", 0, -2);
@@ -216,7 +218,8 @@ final class DrawingBoundsTest extends Checks {
         dueBars(x, "nothing but water is lawful", 0, -2);
     }
 
-    @Sentence(of = "II", says = "BETTER: of two DRAWINGS the one of less SHORT together, of like ones the one of greater TOTAL.")
+    @Sentence(of = "II",
+            says = "BETTER: of two DRAWINGS the one of less SHORT together, of like ones the one of greater TOTAL.")
     private static void iiBetterAtItsEdge() {
         // One cell may go to b: a's worth of it is 5, b's is told.
         String[] worths = {"4", "5", "6"};
@@ -377,9 +380,12 @@ final class DrawingBoundsTest extends Checks {
         due("total(3): the water one is an owner's still", x.total(3), -10000);
     }
 
-    @Sentence(of = "IV", says = "BOUND: each CELL that isn't WATER of its KEPT OWNER's VALUE, else of the greatest of all OWNERS: together.")
+    @Sentence(of = "IV",
+            says = "BOUND: each CELL that isn't WATER of its KEPT OWNER's VALUE, else of the greatest of all OWNERS: "
+                    + "together.")
     private static void ivBoundOfKeptAndFree() {
-        String text = "owner a worth 3;owner b worth 9;owner c worth 1;owner d worth 0;owner e worth 2;owner f worth soil*2";
+        String text = "owner a worth 3;owner b worth 9;owner c worth 1;owner d worth 0;owner e worth 2;"
+                + "owner f worth soil*2";
         WholeFields x = with(text, 3, 1);
         due("total(2): the last owner's is the greatest", x.total(2), 30);
         x.cell(0, 0, 0, false);
@@ -544,7 +550,9 @@ final class DrawingBoundsTest extends Checks {
 
     // ---- promise 19
 
-    @Sentence(of = "IV", says = "ENVY: an OWNER to whom another one's FIELD (with a CELL at least) is of greater SUM (by its own VALUES) than its own; pairs of such.")
+    @Sentence(of = "IV",
+            says = "ENVY: an OWNER to whom another one's FIELD (with a CELL at least) is of greater SUM (by its own "
+                    + "VALUES) than its own; pairs of such.")
     private static void ivEnvyAtItsEdge() {
         WholeFields x = drawn("owner a worth soil;owner b worth 9-soil", "ab");
         due("envies(0, 1): as much", x.envies(0, 1), 0);

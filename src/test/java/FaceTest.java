@@ -108,7 +108,8 @@ final class FaceTest {
                 start = i;
             }
             if (lines[i].matches("( {4}| {8})\\}")) {
-                must("the method at line " + (start + 1) + " is short", i - start <= 60 || lines[i].startsWith("    }"));
+                boolean isEnd = lines[i].startsWith("    }");
+                must("the method at line " + (start + 1) + " is short", i - start <= 60 || isEnd);
             }
         }
     }

@@ -52,7 +52,9 @@ final class FoundBoundsTest extends Checks {
         dueGrown(x, "all are kept", 0, "babab");
     }
 
-    @Sentence(of = "III", says = "and doors that aren't KEPT by another OWNER or had by a lesser one are their OWNERS' (not WATER ones).")
+    @Sentence(of = "III",
+            says = "and doors that aren't KEPT by another OWNER or had by a lesser one are their OWNERS' (not WATER "
+                    + "ones).")
     private static void iiiDoors() {
         WholeFields x = with(SIX, 3, 1);
         flood(x, 1);
@@ -223,9 +225,9 @@ final class FoundBoundsTest extends Checks {
     private static void iiiACellBecomesAnothers() {
         WholeFields x = drawn("owner a worth 1;owner b worth 2", "a");
         dueBettered(x, "the last cell of one, the first of another", 9, 1, "b");
-        x = drawn("owner a worth 1;owner b worth 1;owner c worth 1;owner d worth 1;owner e worth 1;owner f worth 2", "a");
+        x = drawn(SIX.replace("f worth 1", "f worth 2"), "a");
         dueBettered(x, "from the first owner to the last", 9, 1, "f");
-        x = drawn("owner a worth 2;owner b worth 1;owner c worth 1;owner d worth 1;owner e worth 1;owner f worth 1", "f");
+        x = drawn(SIX.replace("a worth 1", "a worth 2"), "f");
         dueBettered(x, "from the last owner to the first", 9, 1, "a");
     }
 
@@ -465,7 +467,8 @@ final class FoundBoundsTest extends Checks {
         refusedNumber(x, "best(false) of six owners and no cell", x.best(false), 5);
     }
 
-    @Sentence(of = "IV", says = "BEST: of all LAWFUL DRAWINGS (WATER CELLS no one's) the one than which none is BETTER,")
+    @Sentence(of = "IV",
+            says = "BEST: of all LAWFUL DRAWINGS (WATER CELLS no one's) the one than which none is BETTER,")
     private static void ivBestOfAllLawful() {
         WholeFields x = drawn("owner a worth 1;owner b worth 2", "aa aa");
         flood(x, 1);

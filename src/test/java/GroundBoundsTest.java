@@ -29,7 +29,8 @@ final class GroundBoundsTest extends Checks {
         }
     }
 
-    @Sentence(of = "II", says = "each of a soil (0 .. 9; 5 at first), wet (0 .. 9; 0 at first), WATER or not (not at first).")
+    @Sentence(of = "II",
+            says = "each of a soil (0 .. 9; 5 at first), wet (0 .. 9; 0 at first), WATER or not (not at first).")
     private static void iiCellsAtFirst() {
         WholeFields x = with("owner a worth soil * 10 + wet; owner b worth water", 8, 8);
         for (int c = 0; c < 64; c++) {
@@ -253,7 +254,9 @@ final class GroundBoundsTest extends Checks {
         }
     }
 
-    @Sentence(of = "6", says = "A GROUND (CELLS as at first, no one's, none KEPT, doors at CELL 0; HAD, LIMIT, WIDTH as at first; no corners told; barred(), part() as ahead of any):")
+    @Sentence(of = "6",
+            says = "A GROUND (CELLS as at first, no one's, none KEPT, doors at CELL 0; HAD, LIMIT, WIDTH as at first; "
+                    + "no corners told; barred(), part() as ahead of any):")
     private static void p06AllAsAtFirst() {
         for (int[] size : new int[][] {{3, 2}, {2, 3}, {1, 1}, {4, 3}}) {
             for (State state : new State[] {State.LAWFUL, State.UNLAWFUL}) {
@@ -520,8 +523,8 @@ final class GroundBoundsTest extends Checks {
 
     @Sentence(of = "12", says = "VALUE;")
     private static void p12FirstAndLast() {
-        WholeFields x = with("owner a worth 1;owner b worth 2;owner c worth 3;owner d worth 4;owner e worth 5;owner f worth 6",
-                8, 8);
+        WholeFields x = with("owner a worth 1;owner b worth 2;owner c worth 3;owner d worth 4;owner e worth 5;"
+                + "owner f worth 6", 8, 8);
         for (int o = 0; o < 6; o++) {
             due("value(" + o + ", 0)", x.value(o, 0), o + 1);
             due("value(" + o + ", 63)", x.value(o, 63), o + 1);

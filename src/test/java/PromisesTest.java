@@ -301,7 +301,8 @@ final class PromisesTest extends Checks {
         dueValue("(1)+(2)+(3)+(4)+(5)+(6)", 21);
         due("the outer letters", Texts.book(new WholeFields(), "owner azaz worth wet + 09"), 1);
         due("a name of eight letters, and no blanks", Texts.book(new WholeFields(), "owner abcdefgh worth5"), 1);
-        due("blanks all about", Texts.book(new WholeFields(), "  owner  b  worth  least ( 1 , 2 )  ;owner c worth(1)  "), 2);
+        String blanks = "  owner  b  worth  least ( 1 , 2 )  ;owner c worth(1)  ";
+        due("blanks all about", Texts.book(new WholeFields(), blanks), 2);
         String full = "1+".repeat(19) + "1";
         due("20 factors in each", Texts.book(new WholeFields(), "owner a worth " + full + ";owner b worth " + full), 2);
         due("six owners", Texts.book(new WholeFields(), THREE + ";owner d worth 1;owner e worth 1;owner f worth 1"), 6);
