@@ -82,12 +82,7 @@ final class ReadmeTest {
     private static List<?> play() throws IOException, ReflectiveOperationException {
         Path place = Files.createTempDirectory("readme");
         try {
-            Path source = Files.writeString(place.resolve("Readme.java"), program());
-            JavaCompiler javac = ToolProvider.getSystemJavaCompiler();
-            String classes = System.getProperty("java.class.path");
-            int failed = javac.run(null, null, null, "-cp", classes, "-d", place.toString(), source.toString());
-            TALLY.due("compiling the page's program", failed, 0);
-            if (failed != 0) {
+            if (!isCompiled(Files.writeString(place.resolve("Readme.java"), program()), place)) {
                 return List.of();
             }
             URL[] places = {place.toUri().toURL()};
@@ -97,6 +92,14 @@ final class ReadmeTest {
         } finally {
             remove(place);
         }
+    }
+
+    private static boolean isCompiled(Path source, Path place) {
+        // A java without its javac has none.
+        JavaCompiler javac = ToolProvider.getSystemJavaCompiler();
+        String classes = System.getProperty("java.class.path");
+        return TALLY.due("the page's program can be compiled", javac != null
+                && javac.run(null, null, null, "-cp", classes, "-d", place.toString(), source.toString()) == 0, true);
     }
 
     private static void remove(Path place) throws IOException {
